@@ -722,7 +722,7 @@ public final class RottenSeats {
             return false;
         }
         people.gather(person, place, day);
-        return texts.holds(text, people.facts);
+        return Texts.decide(texts.rules[text], texts.lengths[text], people.facts);
     }
 
     /** How many persons vote in at least one place by the texts of the bill just applied. */
@@ -949,7 +949,8 @@ public final class RottenSeats {
         static final int HEARTH = 0;
         static final int PLOT = 1;
         static final int GUILD = 2;
-        static final int OPEN = Integer.MAX_VALUE;
+        /** The end of a right that is not ended: no day that can be asked for. */
+        static final int OPEN = LAST_DAY + 1;
 
         final int[] homes = new int[MOST];
         final int[] sinces = new int[MOST];
@@ -1084,7 +1085,7 @@ public final class RottenSeats {
 
         private boolean readRule(int depth) {
             boolean good = readTerm(depth);
-            while (good && next() == '|') {
+            while (good && at < size && next() == '|') {
                 at++;
                 good = readTerm(depth);
                 emit(OR);
@@ -1094,7 +1095,7 @@ public final class RottenSeats {
 
         private boolean readTerm(int depth) {
             boolean good = readPart(depth);
-            while (good && next() == '&') {
+            while (good && at < size && next() == '&') {
                 at++;
                 good = readPart(depth);
                 emit(AND);
@@ -1104,7 +1105,7 @@ public final class RottenSeats {
 
         private boolean readPart(int depth) {
             int inside = depth;
-            while (next() == '!' && inside < DEEPEST) {
+            while (inside < DEEPEST && next() == '!') {
                 at++;
                 inside++;
             }
@@ -1176,10 +1177,6 @@ public final class RottenSeats {
             lengths[size] = length;
             size++;
             return size - 1;
-        }
-
-        boolean holds(int text, int[] facts) {
-            return decide(rules[text], lengths[text], facts);
         }
 
         /** The answers that wait are the bits of one int, the newest the lowest. */
@@ -1602,6 +1599,7 @@ public final class RottenSeats {
      */
     private static final class Plan {
         static final int BASE = 6;
+        /** BASE to the number of lines: more than all that their nights can count together. */
         static final int GREAT = 10077696;
 
         final int[] nightsOf = new int[LINES_MOST];
@@ -1612,11 +1610,13 @@ public final class RottenSeats {
 
         void make(int n, int c, Bill bill, Knots knots, Members members) {
             int all = bill.all();
-            prepare(all, bill);
+            prepare(bill);
             Arrays.fill(values[n], 0);
             for (int night = n - 1; night >= 0; night--) {
                 int carried = knots.carriedAlone(night, bill.size, members);
-                for (int ahead = 0; ahead <= all; ahead++) {
+                // Nothing is brought ahead of night 0.
+                int greatest = night == 0 ? 0 : all;
+                for (int ahead = 0; ahead <= greatest; ahead++) {
                     pick(night, n - night, c, ahead, carried & ~ahead);
                 }
             }
@@ -1624,18 +1624,16 @@ public final class RottenSeats {
         }
 
         /** Of each set of lines what it needs, and how much it counts when it comes a night earlier. */
-        private void prepare(int all, Bill bill) {
+        private void prepare(Bill bill) {
             needs[0] = 0;
             ranks[0] = 0;
-            for (int set = 1; set <= all && set < LINE_SETS; set++) {
-                int line = Integer.numberOfTrailingZeros(set);
-                int rest = set & set - 1;
-                needs[set] = needs[rest] | bill.needs[line];
-                int rank = 1;
-                for (int i = line + 1; i < LINES_MOST; i++) {
-                    rank *= BASE;
+            int rank = GREAT;
+            for (int line = 0; line < bill.size; line++) {
+                rank /= BASE;
+                for (int rest = 0; rest < 1 << line; rest++) {
+                    needs[rest | 1 << line] = needs[rest] | bill.needs[line];
+                    ranks[rest | 1 << line] = ranks[rest] + rank;
                 }
-                ranks[set] = ranks[rest] + rank;
             }
         }
 
