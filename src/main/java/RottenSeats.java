@@ -895,7 +895,6 @@ public final class RottenSeats {
         void drawList(int count, int j, int k) {
             listed = Math.min(count, PLACES_MOST);
             for (int place = 0; place < listed; place++) {
-                houses[place] = valueOf(find(place * 2, j, k));
                 scores[place] = 0;
                 leasts[place] = 0;
                 greatests[place] = 0;
@@ -903,6 +902,7 @@ public final class RottenSeats {
                     int found = find(place * 2 + what, j, k);
                     int value = valueOf(found);
                     int wrong = wrongOf(found);
+                    houses[place] = what == 0 ? value : houses[place];
                     scores[place] += value * weights[what];
                     leasts[place] += Math.max(0, value - wrong) * weights[what];
                     greatests[place] += (value + wrong) * weights[what];
@@ -1603,21 +1603,28 @@ public final class RottenSeats {
         static final int GREAT = 10077696;
 
         final int[] nightsOf = new int[LINES_MOST];
+        private final int[] carried = new int[NIGHTS];
+        /** Of each night the lines that any earlier one can carry. */
+        private final int[] carriedAhead = new int[NIGHTS];
         private final int[][] values = new int[NIGHTS + 1][LINE_SETS];
         private final int[][] picks = new int[NIGHTS][LINE_SETS];
         private final int[] needs = new int[LINE_SETS];
         private final int[] ranks = new int[LINE_SETS];
 
         void make(int n, int c, Bill bill, Knots knots, Members members) {
-            int all = bill.all();
             prepare(bill);
+            int earlier = 0;
+            for (int night = 0; night < n; night++) {
+                carried[night] = knots.carriedAlone(night, bill.size, members);
+                carriedAhead[night] = earlier;
+                earlier |= carried[night];
+            }
             Arrays.fill(values[n], 0);
             for (int night = n - 1; night >= 0; night--) {
-                int carried = knots.carriedAlone(night, bill.size, members);
-                // Nothing is brought ahead of night 0.
-                int greatest = night == 0 ? 0 : all;
-                for (int ahead = 0; ahead <= greatest; ahead++) {
-                    pick(night, n - night, c, ahead, carried & ~ahead);
+                for (int ahead = 0; ahead <= carriedAhead[night]; ahead++) {
+                    if ((ahead & ~carriedAhead[night]) == 0) {
+                        pick(night, n - night, c, ahead, carried[night] & ~ahead);
+                    }
                 }
             }
             assign(n, bill.size);

@@ -15,6 +15,7 @@ public final class BillTest {
         promise30Seats();
         promise30SeatsBothWays();
         promise30Votes();
+        promise30VotesInOnePlace();
         promise30Refusals();
         Due.end();
     }
@@ -295,6 +296,20 @@ public final class BillTest {
         Due.due("votes of line 0 when another undoes it", x.gain(0, 4, 2), -2);
         Due.due("votes of line 1, with 2 that hangs on it", x.gain(1, 4, 2), -2);
         Due.due("votes of the line that undoes", x.gain(2, 4, 2), -2);
+    }
+
+    private static void promise30VotesInOnePlace() {
+        for (int place = 0; place < 3; place++) {
+            RottenSeats x = new RottenSeats();
+            Due.text(x, "1=1");
+            for (int i = 0; i < 3; i++) {
+                x.place(i == place ? 1 : 0, -1);
+            }
+            x.person(0, 0, 0, -1);
+            x.person(1, 0, 0, -1);
+            x.line(2, 1, 0, 0);
+            Due.due("votes in place " + place + " alone", x.gain(0, 0, 2), 2);
+        }
     }
 
     private static void promise30Refusals() {

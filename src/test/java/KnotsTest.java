@@ -12,6 +12,7 @@ public final class KnotsTest {
         promise35Refusals();
         promise36Carry();
         promise36Least();
+        promise36NearlyAll();
         promise36Standing();
         promise36Loses();
         promise36Refusals();
@@ -254,6 +255,23 @@ public final class KnotsTest {
         Due.due("0 or 3", x.carry(0, 0), 9);
         x.bar(0, -10);
         Due.due("0 ahead of 3", x.carry(0, 0), 1);
+    }
+
+    private static void promise36NearlyAll() {
+        RottenSeats x = knots(5);
+        lines(x, 0, 0, 0, 0, 0, 0, 0, 0, 0);
+        for (int line = 0; line < 9; line++) {
+            x.want(0, line, line == 4 ? 2 : -3);
+        }
+        x.bar(0, 1);
+        Due.due("all but line 4", x.carry(0, 0), 511 - 16);
+        x.bar(0, 2);
+        Due.due("none", x.carry(0, 0), -9);
+        x.bar(0, -1);
+        Due.due("all but line 4 once more", x.carry(0, 0), 511 - 16);
+        x.want(0, 4, -3);
+        Due.due("all nine", x.carry(0, 0), 511);
+        Due.due("all nine, lost", x.carry(0, 1), -27);
     }
 
     private static void promise36Standing() {

@@ -4,6 +4,7 @@ public final class LotsTest {
         promise22Fact();
         promise23Ends();
         promise23Witness();
+        promise23WitnessOfDoubts();
         promise23Refusals();
         promise24Member();
         promise24MemberRoom();
@@ -88,6 +89,23 @@ public final class LotsTest {
         Due.due("no witness", x.ends(4, 2), -9);
         x.fact(4, 1, 2);
         Due.due("b open again", x.ends(4, 2), 1);
+    }
+
+    private static void promise23WitnessOfDoubts() {
+        RottenSeats x = new RottenSeats();
+        // a leaves 4 of 8 either way; b and c leave 2 of 8 or 6 of 8; d leaves 4 of 8.
+        Due.petition(x, "a=1&b=1|a=0&c=1");
+        Due.due("the first of b, c", x.ends(0, 2), 1);
+        x.fact(0, 1, 1);
+        // b so: a 0 + 2, c 0 + 2, d 1 + 1: the least of equal ones
+        Due.due("a of equal ones", x.ends(0, 2), 0);
+        x.fact(0, 0, 0);
+        Due.due("c decides", x.ends(0, 2), 2);
+        // Four of 16, and doubts of 4 together whichever is told: a, b, c 2 + 2, d 4 + 0
+        Due.petition(x, "a=b&c=1&d=1|a=b&c=0&d=1");
+        Due.due("a of four equal ones", x.ends(1, 2), 0);
+        x.fact(1, 0, 1);
+        Due.due("b, when a is told", x.ends(1, 2), 1);
     }
 
     private static void promise23Refusals() {
@@ -186,6 +204,9 @@ public final class LotsTest {
         Due.due("sum 0", eleven(9, 9, 9, -9, -9, -9, 0, 0, 0, 0, 0).lot(1, five), 0);
         Due.due("sum 1", eleven(9, 9, 9, -9, -9, -9, 0, 0, 1, 0, 0).lot(1, five), 1);
         Due.due("sum -1", eleven(9, 9, 9, -9, -9, -9, 0, 0, -1, 0, 0).lot(1, five), 0);
+        Due.due("the first member decides", eleven(1, 9, 9, 9, -9, -9, -9, 0, 0, 0, 0).lot(1, five), 1);
+        Due.due("the first member sits", eleven(1, 9, 9, 9, -9, -9, -9, 0, 0, 0, 0).lot(1, 0), 0);
+        Due.due("the last member decides", eleven(9, 9, 9, -9, -9, -9, 0, 0, 0, 0, 1).lot(1, five), 1);
         Due.due("sum of 1, 1, -1", eleven(9, 9, 9, -9, -9, -9, 1, 1, -1, 0, 0).lot(1, five), 1);
     }
 

@@ -15,6 +15,7 @@ public final class PersonsTest {
         promise16TextInForce();
         promise16Refusals();
         promise17Furrows();
+        promise17Ends();
         promise17Refusals();
         Due.end();
     }
@@ -290,6 +291,25 @@ public final class PersonsTest {
         x.right(0, 0, 0, 0, -345);
         due2(x, "on day 19", 0, 19, 1, 0);
         due2(x, "on day 20 again", 0, 20, 0, -9);
+    }
+
+    private static void promise17Ends() {
+        RottenSeats x = new RottenSeats();
+        x.place(1, 0);
+        x.days(400);
+        Due.text(x, "p>0");
+        x.old(0, 0, 0);
+        x.person(0, 0, 0, -1);
+        due2(x, "of one without a plot", 0, 400, 0, -9);
+        x.right(0, 0, 1, 1, 400);
+        due2(x, "of one, the only person", 0, 400, 1, 0);
+        for (int i = 1; i < 40; i++) {
+            x.person(0, 0, 0, -1);
+        }
+        x.right(39, 0, 1, 1, 400);
+        due2(x, "of the first and the last", 0, 400, 2, 0);
+        x.end(0);
+        due2(x, "of the last", 0, 400, 1, 39);
     }
 
     private static void due2(RottenSeats x, String of, int place, int day, int many, int least) {

@@ -3,19 +3,22 @@
  * answer is held against the other telling of the document in NaiveSeats.
  */
 public final class RandomTest {
-    private static final int RUNS = 400;
+    private static final int RUNS = 1500;
     private static final int CALLS = 512;
     private static final int METHODS = 42;
 
     private final RottenSeats x = new RottenSeats();
     private final NaiveSeats m = new NaiveSeats();
     private final int run;
+    /** Runs of few knots have more of them there. */
+    private final int knots;
     private long state;
     private int calls = 0;
 
     private RandomTest(int run) {
         this.run = run;
         this.state = run * 7919L + 12345;
+        this.knots = 1 + pick(8);
     }
 
     public static void main(String[] args) {
@@ -38,10 +41,10 @@ public final class RandomTest {
     }
 
     private void set() {
-        int[] first = {1, 3, 8, 10, 40, 14, 22, 24, 25, 29, 31, 32, 33, 13, 13};
-        int[] most = {16, 60, 20, 30, 0, 10, 20, 20, 9, 40, 8, 12, 4, 4, 4};
+        int[] first = {0, 1, 1, 13, 3, 8, 10, 40, 16, 14, 22, 24, 25, 29, 31, 32};
+        int[] most = {20, 2, run % 3 == 0 ? 14 : 1, 10, 40, 24, 40, 12, 5, 5, 20, 20, 9, 30, 8, 16};
         for (int i = 0; i < first.length && calls < 350; i++) {
-            int many = pick(4) == 0 ? most[i] : pick(most[i] + 1);
+            int many = i == 1 || pick(4) == 0 ? most[i] : pick(most[i] + 1);
             for (int j = 0; j < many; j++) {
                 step(first[i]);
                 if (pick(12) == 0) {
@@ -67,7 +70,7 @@ public final class RandomTest {
 
     /** Mostly least .. greatest; now and then the next one outside, or far outside. */
     private int near(int least, int greatest) {
-        switch (pick(60)) {
+        switch (pick(120)) {
             case 0:
                 return least - 1;
             case 1:
@@ -111,16 +114,20 @@ public final class RandomTest {
     private String rule(String letters, int deep) {
         int kind = pick(deep > 0 ? 9 : 4);
         if (kind < 4) {
-            String unit = pick(3) == 0 ? "" + pick(pick(2) == 0 ? 3 : 10000) : "" + letters.charAt(pick(letters.length()));
-            int great = letters.length() == 4 ? 3 : pick(3) == 0 ? 400 : 10;
-            String other = pick(3) > 0 ? "" + pick(great) : "" + letters.charAt(pick(letters.length()));
-            return unit + "<=>".charAt(pick(3)) + other;
+            String unit = pick(9) == 0 ? "" + pick(pick(2) == 0 ? 3 : 10000) : letter(letters);
+            int great = letters.length() == 4 ? 3 : pick(4) == 0 ? 400 : 2;
+            String other = pick(5) > 0 ? "" + pick(great) : letter(letters);
+            return unit + "<=>>>>".charAt(pick(6)) + other;
         }
         if (kind < 6) {
             return "!" + (pick(2) == 0 ? rule(letters, 0) : "(" + rule(letters, deep - 1) + ")");
         }
         String part = kind == 6 ? "(" + rule(letters, deep - 1) + ")" : rule(letters, deep - 1);
         return part + "&|".charAt(pick(2)) + rule(letters, deep - 1);
+    }
+
+    private String letter(String letters) {
+        return "" + letters.charAt(pick(letters.length()));
     }
 
     private void feedRule(boolean facts) {
@@ -289,7 +296,7 @@ public final class RandomTest {
                 same("ends(" + petition + ", " + part + ")", x.ends(petition, part), m.ends(petition, part));
             }
             case 24 -> {
-                int knot = near(0, 7);
+                int knot = near(0, knots - 1);
                 int lean = near(-9, 9);
                 same("member(" + knot + ", " + lean + ")", x.member(knot, lean), m.member(knot, lean));
             }
@@ -322,26 +329,26 @@ public final class RandomTest {
                 same("gain(" + line + ", " + day + ", " + what + ")", x.gain(line, day, what), m.gain(line, day, what));
             }
             case 29 -> {
-                int knot = near(0, 7);
+                int knot = near(0, knots - 1);
                 int line = near(0, 8);
                 int v = near(-9, 9);
                 same("want(" + knot + ", " + line + ", " + v + ")", x.want(knot, line, v), m.want(knot, line, v));
             }
             case 30 -> {
-                int knot = near(0, 7);
-                int v = pick(3) == 0 ? near(-99, 99) : pick(11) - 5;
+                int knot = near(0, knots - 1);
+                int v = pick(3) == 0 ? near(-99, 99) : pick(15) - 9;
                 same("bar(" + knot + ", " + v + ")", x.bar(knot, v), m.bar(knot, v));
             }
             case 31 -> {
-                int knot = near(0, 7);
-                int set = near(0, 511);
+                int knot = near(0, knots - 1);
+                int set = pick(2) == 0 ? near(0, 511) : pick(512) | pick(512) | pick(512);
                 same("read(" + knot + ", " + set + ")", x.read(knot, set), m.read(knot, set));
             }
             case 32 -> {
-                int knot = near(0, 7);
+                int knot = near(0, knots - 1);
                 int night = near(0, 4);
-                int least = pick(3) == 0 ? near(0, 40) : pick(5);
-                int most = pick(3) == 0 ? near(0, 40) : least + pick(4);
+                int least = pick(3) == 0 ? near(0, 40) : pick(9);
+                int most = pick(5) == 0 ? near(0, 40) : least + pick(4);
                 same("there(" + knot + ", " + night + ", " + least + ", " + most + ")",
                         x.there(knot, night, least, most), m.there(knot, night, least, most));
             }
@@ -406,7 +413,7 @@ public final class RandomTest {
             case 40 -> {
                 int place = told(1);
                 int text = told(5);
-                int day = pick(3) * 100;
+                int day = pick(3) * 10;
                 same("old(" + place + ", " + text + ", " + day + ")", x.old(place, text, day), m.old(place, text, day));
             }
             default -> {

@@ -92,6 +92,10 @@ public final class SalesTest {
         x.sell(0, 5, 5, 0);
         x.sell(0, 5, 5, 0);
         Due.due("any sale", x.twice(0), 1);
+        RottenSeats y = new RottenSeats();
+        y.place(0, 0);
+        y.sell(0, 9999, 9999, 0);
+        Due.due("the first sale of all", y.twice(0), 0);
     }
 
     private static void promise19Places() {
