@@ -1236,7 +1236,6 @@ public final class RottenSeats {
         }
 
         int add(int[] steps, int length) {
-            truths[size] = 0;
             for (int set = 0; set < 16; set++) {
                 for (int fact = 0; fact < FACTS; fact++) {
                     facts[fact] = set >> fact & 1;
@@ -1630,10 +1629,11 @@ public final class RottenSeats {
             assign(n, bill.size);
         }
 
-        /** Of each set of lines what it needs, and how much it counts when it comes a night earlier. */
+        /**
+         * Of each set of lines what it needs, and how much it counts when it comes a night earlier;
+         * both are 0 of no line, and stay so.
+         */
         private void prepare(Bill bill) {
-            needs[0] = 0;
-            ranks[0] = 0;
             int rank = GREAT;
             for (int line = 0; line < bill.size; line++) {
                 rank /= BASE;
