@@ -1,23 +1,56 @@
+import java.io.IOException;
+import java.nio.file.Files;
+import java.nio.file.Path;
+
 /** Answers that are due: each call that answers otherwise is printed, and the test then fails. */
 final class Due {
+    private static final Path DOCUMENT = Path.of("../shared/DOC.md");
+
     private static int wrong = 0;
     private static int asked = 0;
+    private static String sentence = "";
+    private static String document = null;
 
     private Due() {
+    }
+
+    /** What the document says, in its own words; the answers behind it are due by this sentence. */
+    static void says(String words) {
+        sentence = words;
+        asked++;
+        if (!isInDocument(words)) {
+            wrong++;
+            System.out.println("the document does not say: " + words);
+        }
+    }
+
+    private static boolean isInDocument(String words) {
+        if (document == null) {
+            try {
+                document = Files.readString(DOCUMENT).replaceAll("\\s+", " ");
+            } catch (IOException e) {
+                throw new IllegalStateException("no document at " + DOCUMENT, e);
+            }
+        }
+        return document.contains(words);
     }
 
     static void due(String call, long got, long want) {
         asked++;
         if (got != want) {
             wrong++;
-            System.out.println(call + " answered " + got + ", due is " + want);
+            System.out.println(call + " answered " + got + ", due is " + want + bySentence());
         }
     }
 
     static void fail(String what) {
         asked++;
         wrong++;
-        System.out.println(what);
+        System.out.println(what + bySentence());
+    }
+
+    private static String bySentence() {
+        return sentence.isEmpty() ? "" : " (" + sentence + ")";
     }
 
     static boolean isWrong() {

@@ -6,6 +6,8 @@ public final class RandomTest {
     private static final int RUNS = 1500;
     private static final int CALLS = 512;
     private static final int METHODS = 42;
+    /** The most calls of one step: 22 times SEATS are asked and put, then the row is checked. */
+    private static final int STEP = 45;
 
     private final RottenSeats x = new RottenSeats();
     private final NaiveSeats m = new NaiveSeats();
@@ -32,7 +34,7 @@ public final class RandomTest {
         set();
         // Some runs ask much of few calls, so that what hangs together meets.
         int only = pick(3) == 0 ? pick(METHODS) : -1;
-        while (calls < CALLS - 18) {
+        while (calls < CALLS - 18 - STEP) {
             step(only >= 0 && pick(2) == 0 ? only : pick(METHODS));
         }
         for (int what = 0; what < 18; what++) {
@@ -45,7 +47,7 @@ public final class RandomTest {
         int[] most = {20, 2, run % 3 == 0 ? 14 : 1, 10, 40, 24, 40, 12, 5, 5, 20, 20, 9, 30, 8, 16};
         for (int i = 0; i < first.length && calls < 350; i++) {
             int many = i == 1 || pick(4) == 0 ? most[i] : pick(most[i] + 1);
-            for (int j = 0; j < many; j++) {
+            for (int j = 0; j < many && calls < 400; j++) {
                 step(first[i]);
                 if (pick(12) == 0) {
                     step(0);
@@ -87,11 +89,11 @@ public final class RandomTest {
     }
 
     private int told(int what) {
-        return near(0, x.count(what) - 1);
+        return near(0, m.count(what) - 1);
     }
 
     private int day() {
-        int now = x.count(0);
+        int now = m.count(0);
         switch (pick(6)) {
             case 0:
                 return near(0, 2000);
@@ -103,7 +105,7 @@ public final class RandomTest {
     }
 
     private int since() {
-        int now = x.count(0);
+        int now = m.count(0);
         return pick(5) == 0 ? near(-2000, now) : now - pick(1 + pick(500));
     }
 
@@ -177,7 +179,7 @@ public final class RandomTest {
             case 3 -> {
                 int place = told(1);
                 int what = near(0, 1);
-                int day = pick(9) == 0 ? day() : Math.max(0, x.count(0) - pick(5));
+                int day = pick(9) == 0 ? day() : Math.max(0, m.count(0) - pick(5));
                 int v = pick(3) == 0 ? near(0, 9999) : pick(40);
                 int wrong = pick(3) == 0 ? near(0, 999) : pick(12);
                 same("roll(" + place + ", " + what + ", " + day + ", " + v + ", " + wrong + ")",
@@ -270,7 +272,7 @@ public final class RandomTest {
     }
 
     private void stepOfTheBill(int method) {
-        int lines = x.count(8);
+        int lines = m.count(8);
         switch (method) {
             case 21 -> {
                 int place = told(1);
@@ -369,7 +371,7 @@ public final class RandomTest {
     }
 
     private void stepOfNights(int method) {
-        int lines = x.count(8);
+        int lines = m.count(8);
         switch (method) {
             case 35 -> {
                 int n = near(1, 5);
@@ -401,8 +403,8 @@ public final class RandomTest {
             case 39 -> {
                 int set = set(lines);
                 int day = day();
-                int many = pick(3) == 0 ? pick(22) : Math.min(21, x.count(1) + pick(3) - 1);
-                for (int i = x.count(17); i < many; i++) {
+                int many = pick(3) == 0 ? pick(22) : Math.min(21, m.count(1) + pick(3) - 1);
+                for (int i = m.count(17); i < many; i++) {
                     int v = x.under(set, i, day, 0);
                     same("under(" + set + ", " + i + ", " + day + ", 0)", v, m.under(set, i, day, 0));
                     v = pick(20) == 0 ? near(0, 9) : v;

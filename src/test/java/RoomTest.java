@@ -15,10 +15,10 @@ public final class RoomTest {
         hold("an object", made() - before, 65536);
         RottenSeats x = full();
         before = made();
-        for (int i = 0; i < 60; i++) {
+        for (int i = 0; i < 38; i++) {
             callsOf(x, i);
         }
-        hold("480 calls", made() - before, 4096);
+        hold("304 calls", made() - before, 4096);
         hold("objects kept", kept.count(0), 0);
         Due.end();
     }

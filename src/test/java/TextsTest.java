@@ -161,13 +161,9 @@ public final class TextsTest {
 
     /** A byte that can stand is not the fault; one that can not is. */
     private static void everyByte(String ahead, String can, String behind) {
-        RottenSeats x = new RottenSeats();
         int at = ahead.length();
         for (int b = 0; b < 256; b++) {
-            if (x.count(5) == 20) {
-                x = new RottenSeats();
-            }
-            int answer = Due.text(x, ahead + (char) b + behind);
+            int answer = Due.text(new RottenSeats(), ahead + (char) b + behind);
             boolean stands = answer != -20 - at;
             Due.due("byte " + b + " behind " + ahead, stands ? 1 : 0, can.indexOf(b) >= 0 ? 1 : 0);
         }
