@@ -245,7 +245,7 @@ public final class EdgesOfElectionsTest {
     }
 
     private static void promise41Any() {
-        Due.says("An int more of the ROW: how many.");
+        Due.says("A ROW (20 ints at most) is checked");
         for (int v : new int[] {MIN, -10, -9, -6, -1, 0, 2, 3, 10, MAX}) {
             RottenSeats x = new RottenSeats();
             x.place(1, -1);
@@ -407,7 +407,8 @@ public final class EdgesOfElectionsTest {
     }
 
     private static void promise43Full() {
-        Due.says("0 DAY, 1 PLACES, 2 ROLLS, 3 PERSONS HERE, 4 RIGHTS, 5 TEXTS, 6 PETITIONS, 7 MEMBERS, 8 LINES, 9 SALES,");
+        Due.says("0 DAY, 1 PLACES, 2 ROLLS, 3 PERSONS HERE, 4 RIGHTS, 5 TEXTS, 6 PETITIONS, 7 MEMBERS, 8 LINES, "
+                + "9 SALES, 10 bytes of THE TAPE, 11 .. 16 REFUSALS -1 .. -6, 17 ints of the ROW.");
         RottenSeats x = World.full();
         int[] counts = {2000, 16, 120, 40, 80, 20, 10, 40, 9, 30, 40, 0, 0, 0, 0, 0, 0, 20};
         for (int what = 0; what < counts.length; what++) {

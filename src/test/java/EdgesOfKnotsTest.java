@@ -35,25 +35,6 @@ public final class EdgesOfKnotsTest {
         Due.end();
     }
 
-    /** Knots with so many members each, that have read all and are all there on night 0. */
-    private static RottenSeats knots(int... sizes) {
-        RottenSeats x = new RottenSeats();
-        for (int knot = 0; knot < sizes.length; knot++) {
-            for (int i = 0; i < sizes[knot]; i++) {
-                x.member(knot, 0);
-            }
-            x.read(knot, 511);
-            x.there(knot, 0, sizes[knot], sizes[knot]);
-        }
-        return x;
-    }
-
-    private static void lines(RottenSeats x, int... hangs) {
-        for (int set : hangs) {
-            x.line(0, 1, 0, set);
-        }
-    }
-
     private static void wants(RottenSeats x, int knot, int... wants) {
         for (int line = 0; line < wants.length; line++) {
             x.want(knot, line, wants[line]);
@@ -78,12 +59,12 @@ public final class EdgesOfKnotsTest {
         Edge.among("line that is wanted", 0, 8, 1000000001, (x, v) -> x.want(0, v, 0));
         Edge.refused("no line ahead of below", 1000000001, x -> x.want(0, 9, -10));
         Edge.refused("no line ahead of above", 1000000001, x -> x.want(0, -1, 10));
-        RottenSeats x = knots(1);
+        RottenSeats x = World.knots(1);
         x.want(0, 8, 5);
         x.bar(0, 4);
-        lines(x, 0, 0, 0, 0, 0, 0, 0, 0);
+        World.lines(x, 0, 0, 0, 0, 0, 0, 0, 0);
         divided(x, 255, 0, -1, -1);
-        lines(x, 0);
+        World.lines(x, 0);
         divided(x, 256, 0, 1, 1);
     }
 
@@ -127,6 +108,8 @@ public final class EdgesOfKnotsTest {
     }
 
     private static void promise33Read() {
+        Due.says("READ: a set of LINES that a KNOT has read (told, from now on).");
+        Edge.taken("lines that are not told", x -> x.read(0, 504));
         Due.says("READ of a KNOT: the set becomes another: what it was. -1; -4; -6 (0 .. 511).");
         Edge.among("knot that reads", 0, 7, -1, (x, v) -> x.read(v, 0));
         Edge.range("set that is read", 0, -4, 511, -6, (x, v) -> x.read(0, v));
@@ -150,6 +133,7 @@ public final class EdgesOfKnotsTest {
     private static void promise34Refusals() {
         Due.says("THERE of a KNOT on a NIGHT: 1. -1; -4 (most below least, too); -6 (40).");
         Edge.among("knot that is there", 0, 7, -1, (x, v) -> x.there(v, 0, 0, 0));
+        Due.says("On a NIGHT (0 .. 4): THERE of a KNOT");
         Edge.among("night on which one is there", 0, 4, -1, (x, v) -> x.there(0, v, 0, 0));
         Edge.refused("no knot ahead of below", -1, x -> x.there(8, 0, -1, 41));
         Edge.refused("no night ahead of below", -1, x -> x.there(0, 5, -1, 41));
@@ -172,8 +156,8 @@ public final class EdgesOfKnotsTest {
 
     private static void promise34Kept() {
         Due.says("from least to most of its MEMBERS (told, 0 .. 40 each; 0 at first;");
-        RottenSeats x = knots(9, 9, 9, 9);
-        lines(x, 0);
+        RottenSeats x = World.knots(9, 9, 9, 9);
+        World.lines(x, 0);
         for (int knot = 0; knot < 4; knot++) {
             for (int night = 0; night < 5; night++) {
                 Due.due("there(" + knot + ", " + night + ")", x.there(knot, night, knot, knot + night), 1);
@@ -190,8 +174,8 @@ public final class EdgesOfKnotsTest {
 
     private static void promise35Bar() {
         Due.says("is above its BAR; else no");
-        RottenSeats x = knots(1);
-        lines(x, 0, 0);
+        RottenSeats x = World.knots(1);
+        World.lines(x, 0, 0);
         wants(x, 0, 5, -3);
         int[][] bars = {{1, 4, 1}, {1, 5, -1}, {1, 6, -1}, {3, 1, 1}, {3, 2, -1}, {2, -4, 1}, {2, -3, -1},
             {2, -2, -1}, {0, -1, 1}, {0, 0, -1}};
@@ -203,7 +187,7 @@ public final class EdgesOfKnotsTest {
 
     private static void promise35BarOfNothing() {
         Due.says("is above its BAR; else no");
-        RottenSeats x = knots(3);
+        RottenSeats x = World.knots(3);
         divided(x, 0, 0, -3, -3);
         x.bar(0, -1);
         divided(x, 0, 0, 3, 3);
@@ -213,8 +197,8 @@ public final class EdgesOfKnotsTest {
 
     private static void promise35GreatestWants() {
         Due.says("for each LINE -9 .. 9");
-        RottenSeats x = knots(1);
-        lines(x, 0, 0, 0, 0, 0, 0, 0, 0, 0);
+        RottenSeats x = World.knots(1);
+        World.lines(x, 0, 0, 0, 0, 0, 0, 0, 0, 0);
         wants(x, 0, 9, 9, 9, 9, 9, 9, 9, 9, 9);
         x.bar(0, 80);
         divided(x, 511, 0, 1, 1);
@@ -235,8 +219,8 @@ public final class EdgesOfKnotsTest {
 
     private static void promise35ReadAndStands() {
         Due.says("the sum of what it wants of those that STAND in it and that it has READ");
-        RottenSeats x = knots(1);
-        lines(x, 0, 1, 0);
+        RottenSeats x = World.knots(1);
+        World.lines(x, 0, 1, 0);
         wants(x, 0, 0, 9, 1);
         divided(x, 2, 0, -1, -1);
         divided(x, 3, 0, 1, 1);
@@ -254,14 +238,14 @@ public final class EdgesOfKnotsTest {
         x.read(0, 256);
         x.want(0, 8, 1);
         divided(x, 7, 0, -1, -1);
-        lines(x, 0, 0, 0, 0, 0, 0);
+        World.lines(x, 0, 0, 0, 0, 0, 0);
         divided(x, 511, 0, 1, 1);
     }
 
     private static void promise35There() {
         Due.says("DIVIDE: LEAST: yes ones' least THERE less no ones' most; MOST: their most less no ones' least.");
-        RottenSeats x = knots(10, 10, 10, 10);
-        lines(x, 0);
+        RottenSeats x = World.knots(10, 10, 10, 10);
+        World.lines(x, 0);
         x.want(0, 0, 1);
         x.want(1, 0, 1);
         x.there(0, 2, 1, 10);
@@ -278,7 +262,7 @@ public final class EdgesOfKnotsTest {
     private static void promise35ThereAtFirst() {
         Due.says("(told, 0 .. 40 each; 0 at first;");
         RottenSeats x = new RottenSeats();
-        lines(x, 0);
+        World.lines(x, 0);
         for (int knot = 0; knot < 8; knot++) {
             x.member(knot, 0);
             x.want(knot, 0, knot % 2);
@@ -292,8 +276,8 @@ public final class EdgesOfKnotsTest {
 
     private static void promise35NoMoreThanItHas() {
         Due.says("where it is used, neither is more than it has then");
-        RottenSeats x = knots(0);
-        lines(x, 0);
+        RottenSeats x = World.knots(0);
+        World.lines(x, 0);
         x.want(0, 0, 1);
         x.there(0, 0, 2, 4);
         int[][] theres = {{0, 0}, {1, 1}, {2, 2}, {2, 3}, {2, 4}, {2, 4}};
@@ -310,8 +294,8 @@ public final class EdgesOfKnotsTest {
 
     private static void promise35Greatest() {
         Due.says("from least to most of its MEMBERS (told, 0 .. 40 each");
-        RottenSeats x = knots(40);
-        lines(x, 0);
+        RottenSeats x = World.knots(40);
+        World.lines(x, 0);
         x.want(0, 0, 1);
         divided(x, 1, 0, 40, 40);
         divided(x, 0, 0, -40, -40);
@@ -321,8 +305,8 @@ public final class EdgesOfKnotsTest {
         Due.due("carry(0, 0)", x.carry(0, 0), -9);
         x.there(0, 0, 39, 40);
         divided(x, 1, 0, 39, 40);
-        RottenSeats y = knots(5, 5, 5, 5, 5, 5, 5, 5);
-        lines(y, 0);
+        RottenSeats y = World.knots(5, 5, 5, 5, 5, 5, 5, 5);
+        World.lines(y, 0);
         divided(y, 1, 0, -40, -40);
         for (int knot = 0; knot < 8; knot++) {
             y.want(knot, 0, 9);
@@ -343,8 +327,8 @@ public final class EdgesOfKnotsTest {
 
     private static void promise36Carried() {
         Due.says("CARRIED if LEAST is above 0.");
-        RottenSeats x = knots(5, 5);
-        lines(x, 0);
+        RottenSeats x = World.knots(5, 5);
+        World.lines(x, 0);
         x.want(0, 0, 1);
         Due.due("5 to 5", x.carry(0, 0), -9);
         x.there(1, 0, 4, 4);
@@ -360,8 +344,8 @@ public final class EdgesOfKnotsTest {
 
     private static void promise36Fewest() {
         Due.says("the one with the fewest left out that is CARRIED");
-        RottenSeats x = knots(1);
-        lines(x, 0, 0, 0);
+        RottenSeats x = World.knots(1);
+        World.lines(x, 0, 0, 0);
         // All -1; but 2: 2; but 0 and 1, a lesser set of more: -3
         wants(x, 0, 1, 1, -3);
         Due.due("all but one", x.carry(0, 0), 4);
@@ -379,8 +363,8 @@ public final class EdgesOfKnotsTest {
 
     private static void promise36LeastSet() {
         Due.says("of several the least set left out, as bits");
-        RottenSeats x = knots(1);
-        lines(x, 0, 0, 0, 0, 0, 0, 0, 0, 0);
+        RottenSeats x = World.knots(1);
+        World.lines(x, 0, 0, 0, 0, 0, 0, 0, 0, 0);
         wants(x, 0, -1, -1, -1, -1, -1, -1, -1, -1, -1);
         int[] least = {511, 255, 127, 63, 31, 15, 7, 3, 1, 0};
         for (int bar = -1; bar >= -10; bar--) {
@@ -398,8 +382,8 @@ public final class EdgesOfKnotsTest {
 
     private static void promise36AllStand() {
         Due.says("of sets of LINES that all STAND (all told ones, or all but some)");
-        RottenSeats x = knots(1);
-        lines(x, 0, 1, 2, 0);
+        RottenSeats x = World.knots(1);
+        World.lines(x, 0, 1, 2, 0);
         wants(x, 0, -3, 0, 1, 1);
         // All -1. Without 0 neither 1 nor 2 stands, so it goes with both.
         Due.due("0 with those that hang on it", x.carry(0, 0), 7);
@@ -415,8 +399,8 @@ public final class EdgesOfKnotsTest {
 
     private static void promise36None() {
         Due.says("the set left out (what 0; -9 none), 1 + KNOT: what it LOSES by it (0 if none)");
-        RottenSeats x = knots(1);
-        lines(x, 0, 0);
+        RottenSeats x = World.knots(1);
+        World.lines(x, 0, 0);
         wants(x, 0, -5, -4);
         Due.due("none is carried", x.carry(0, 0), -9);
         for (int what = 1; what <= 8; what++) {
@@ -430,11 +414,11 @@ public final class EdgesOfKnotsTest {
 
     private static void promise36All() {
         Due.says("(all told ones, or all but some)");
-        RottenSeats x = knots(1);
+        RottenSeats x = World.knots(1);
         x.bar(0, -1);
         Due.due("no line is told", x.carry(0, 0), 0);
         Due.due("what is lost by it", x.carry(0, 1), 0);
-        lines(x, 0);
+        World.lines(x, 0);
         x.want(0, 0, -9);
         Due.due("all but the only one", x.carry(0, 0), 1);
         Due.due("what is lost by it", x.carry(0, 1), -9);
@@ -444,8 +428,8 @@ public final class EdgesOfKnotsTest {
 
     private static void promise36Loses() {
         Due.says("LOSES: what a KNOT wants of LINES left out that it has READ, together.");
-        RottenSeats x = knots(20, 1, 1, 1, 1, 1, 1, 1);
-        lines(x, 0, 0, 0);
+        RottenSeats x = World.knots(20, 1, 1, 1, 1, 1, 1, 1);
+        World.lines(x, 0, 0, 0);
         wants(x, 0, -9, -9, 1);
         for (int knot = 1; knot < 8; knot++) {
             wants(x, knot, knot, -9, 9);
@@ -463,8 +447,8 @@ public final class EdgesOfKnotsTest {
 
     private static void promise36Greatest() {
         Due.says("LOSES: what a KNOT wants of LINES left out that it has READ, together.");
-        RottenSeats x = knots(9, 1, 1);
-        lines(x, 0, 0, 0, 0, 0, 0, 0, 0, 0);
+        RottenSeats x = World.knots(9, 1, 1);
+        World.lines(x, 0, 0, 0, 0, 0, 0, 0, 0, 0);
         wants(x, 0, -9, -9, -9, -9, -9, -9, -9, -9, -9);
         wants(x, 1, 9, 9, 9, 9, 9, 9, 9, 9, 9);
         x.bar(0, -1);

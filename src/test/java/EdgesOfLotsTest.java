@@ -114,7 +114,8 @@ public final class EdgesOfLotsTest {
 
     private static void promise23EachFactSo() {
         Due.says("ENDS: in how many of the sets that may be the RULE holds (part 0)");
-        String[] told = {"1???", "0???", "?1??", "?0??", "??1?", "??0?", "???1", "???0", "11??", "1??0", "1111", "0000"};
+        String[] told = {"1???", "0???", "?1??", "?0??", "??1?", "??0?", "???1", "???0", "11??", "1??0",
+            "1111", "0000"};
         int[] ab = {4, 0, 4, 0, 2, 2, 2, 2, 4, 2, 1, 0};
         int[] of = {8, 8, 8, 8, 8, 8, 8, 8, 4, 4, 1, 1};
         for (int i = 0; i < told.length; i++) {
@@ -211,8 +212,9 @@ public final class EdgesOfLotsTest {
     }
 
     private static void promise24Knot() {
-        Due.says("A MEMBER: its number. -1 KNOT; -4; -6 (40, too).");
+        Due.says("a KNOT (0 .. 7), a LEAN. ");
         Edge.among("knot of a member", 0, 7, -1, (x, v) -> x.member(v, 0));
+        Due.says("A MEMBER: its number. -1 KNOT; -4; -6 (40, too).");
         Edge.refused("no knot ahead of below", -1, x -> x.member(8, -10));
         Edge.refused("no knot ahead of above", -1, x -> x.member(-1, 10));
     }
@@ -234,14 +236,6 @@ public final class EdgesOfLotsTest {
         Edge.refusedWhenFull("one member more", -6, y -> y.member(0, 0));
         Edge.refusedWhenFull("one more, lean below", -4, y -> y.member(0, -10));
         Edge.refusedWhenFull("one more, no knot", -1, y -> y.member(8, -10));
-    }
-
-    private static RottenSeats leans(int... leans) {
-        RottenSeats x = new RottenSeats();
-        for (int lean : leans) {
-            x.member(0, lean);
-        }
-        return x;
     }
 
     private static void promise25Fewer() {
@@ -324,7 +318,7 @@ public final class EdgesOfLotsTest {
         for (int i = 0; i < 40; i++) {
             leans[i] = i * 7 % 19 - 9;
         }
-        RottenSeats x = leans(leans);
+        RottenSeats x = World.leans(leans);
         for (int seed : new int[] {0, 1, 163, 164, 4986, 9972, 9973, 9974, 9998, 9999}) {
             lot(x, seed, judges(seed, leans));
         }
@@ -336,29 +330,29 @@ public final class EdgesOfLotsTest {
         Due.says("the one at SEED modulo how many are left (of the row of MEMBERS that are left, in order) is taken");
         for (int many = 11; many <= 40; many++) {
             int[] leans = new int[many];
-            lot(leans(leans), 9999, judges(9999, leans));
+            lot(World.leans(leans), 9999, judges(9999, leans));
             for (int i = 0; i < many; i++) {
                 leans[i] = i % 5 - 2;
             }
-            lot(leans(leans), many, judges(many, leans));
+            lot(World.leans(leans), many, judges(many, leans));
         }
     }
 
     private static void promise25Turns() {
         Due.says("Then the sides strike, side 0 first, turn by turn, 3 each");
         // Side 0 strikes 9, 8, 7, side 1 strikes -9, -8, -7; 6 and -6 are left.
-        lot(leans(9, 8, 7, 6, -6, -7, -8, -9, 0, 0, 0), 1, 3, 4, 8, 9, 10, 0);
-        lot(leans(-9, -8, -7, -6, 6, 7, 8, 9, 0, 0, 1), 1, 3, 4, 8, 9, 10, 1);
-        lot(leans(9, 9, 9, 9, 9, 9, 9, 9, 9, 9, 9), 1, 6, 7, 8, 9, 10, 1);
-        lot(leans(-9, -9, -9, -9, -9, -9, -9, -9, -9, -9, -9), 1, 6, 7, 8, 9, 10, 0);
+        lot(World.leans(9, 8, 7, 6, -6, -7, -8, -9, 0, 0, 0), 1, 3, 4, 8, 9, 10, 0);
+        lot(World.leans(-9, -8, -7, -6, 6, 7, 8, 9, 0, 0, 1), 1, 3, 4, 8, 9, 10, 1);
+        lot(World.leans(9, 9, 9, 9, 9, 9, 9, 9, 9, 9, 9), 1, 6, 7, 8, 9, 10, 1);
+        lot(World.leans(-9, -9, -9, -9, -9, -9, -9, -9, -9, -9, -9), 1, 6, 7, 8, 9, 10, 0);
     }
 
     private static void promise25Several() {
         Due.says("(side 0: greatest; 1: least), of several the least number");
-        lot(leans(3, 3, 3, 3, 0, -3, -3, -3, -3, 0, 0), 1, 3, 4, 8, 9, 10, 0);
-        lot(leans(0, -3, -3, -3, -3, 0, 0, 3, 3, 3, 3), 1, 0, 4, 5, 6, 10, 0);
-        lot(leans(0, 0, 0, 0, 0, 0, 0, 0, 9, 9, 9), 1, 3, 4, 5, 6, 7, 0);
-        lot(leans(0, 0, 0, 0, 0, 0, 0, 0, 9, 9, -9), 1, 3, 4, 5, 6, 7, 0);
+        lot(World.leans(3, 3, 3, 3, 0, -3, -3, -3, -3, 0, 0), 1, 3, 4, 8, 9, 10, 0);
+        lot(World.leans(0, -3, -3, -3, -3, 0, 0, 3, 3, 3, 3), 1, 0, 4, 5, 6, 10, 0);
+        lot(World.leans(0, 0, 0, 0, 0, 0, 0, 0, 9, 9, 9), 1, 3, 4, 5, 6, 7, 0);
+        lot(World.leans(0, 0, 0, 0, 0, 0, 0, 0, 9, 9, -9), 1, 3, 4, 5, 6, 7, 0);
     }
 
     private static void promise25Verdict() {
@@ -367,8 +361,10 @@ public final class EdgesOfLotsTest {
             {0, 0, 0, 0, -1, 0}, {1, -1, 0, 0, 0, 0}, {2, -1, 0, 0, 0, 1}, {1, -2, 0, 0, 0, 0}, {8, 8, 8, 8, 8, 1},
             {-8, -8, -8, -8, -8, 0}, {-1, -1, -1, -1, 5, 1}, {-1, -1, -1, -1, 4, 0}};
         for (int[] of : five) {
-            RottenSeats x = leans(9, 9, 9, -9, -9, -9, of[0], of[1], of[2], of[3], of[4]);
+            RottenSeats x = World.leans(9, 9, 9, -9, -9, -9, of[0], of[1], of[2], of[3], of[4]);
             Due.due("the side of " + Arrays.toString(of), x.lot(1, 5), of[5]);
+            RottenSeats y = World.leans(of[0], of[1], of[2], of[3], of[4], 9, 9, 9, -9, -9, -9);
+            Due.due("the side of the first, " + Arrays.toString(of), y.lot(1, 5), of[5]);
         }
     }
 }

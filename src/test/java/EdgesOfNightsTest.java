@@ -200,6 +200,11 @@ public final class EdgesOfNightsTest {
         planned(bill(hangs, 5, 6), 2, 9, 0, 1, 1);
         planned(bill(hangs, 5, 4), 2, 9, 0, -9, -9);
         planned(bill(hangs, 6, 5), 2, 2, 1, 0, 1);
+        int[] both = {0, 1, 1, 1};
+        planned(bill(both, 14), 1, 9, -9, -9, -9, -9);
+        planned(bill(both, 14, 1), 2, 9, 1, -9, -9, -9);
+        planned(bill(both, 14, 15), 2, 9, 1, 1, 1, 1);
+        planned(bill(both, 15, 14), 2, 2, 0, 0, 1, 1);
         int[] chain = {0, 1, 2, 4, 8, 16, 32, 64, 128};
         planned(bill(chain, 511, 511, 511, 511, 511), 5, 2, 0, 0, 1, 1, 2, 2, 3, 3, 4);
         planned(bill(chain, 511, 511, 511, 511, 511), 5, 1, 0, 1, 2, 3, 4, -9, -9, -9, -9);
@@ -216,6 +221,20 @@ public final class EdgesOfNightsTest {
         RottenSeats x = new RottenSeats();
         x.line(0, 1, 0, 0);
         planned(x, 5, 9, -9);
+        // What is wanted of lines that nobody told brings none.
+        RottenSeats y = bill(new int[2], 3);
+        for (int line = 2; line < 9; line++) {
+            y.want(0, line, 9);
+        }
+        planned(y, 5, 9, 0, 0);
+        planned(y, 1, 1, 0, -9);
+        y.want(0, 0, -1);
+        y.want(0, 1, -1);
+        planned(y, 5, 9, -9, -9);
+        RottenSeats z = bill(new int[2], 3, 1);
+        z.want(1, 2, 9);
+        z.want(1, 8, 9);
+        planned(z, 2, 1, 1, 0);
     }
 
     private static void promise38LeastNight() {

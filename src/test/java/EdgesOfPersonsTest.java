@@ -376,6 +376,7 @@ public final class EdgesOfPersonsTest {
         }
         x.right(2, 0, 0, 0, 0);
         Due.due("d where only a right is", x.may(2, 0, 10, 4), 0);
+        Due.due("d of one who lives in a lesser place", x.may(0, 1, 10, 4), 0);
         // Far ahead of the first day it is 0, not a number below: 0 is not less than 0.
         Due.text(x, "d<1");
         Due.text(x, "0=d");
@@ -517,7 +518,7 @@ public final class EdgesOfPersonsTest {
     }
 
     private static void promise17YearAheadOfDay0() {
-        Due.says("with FACTS as of 365 DAYS ahead");
+        Due.says("a YEAR is 365 DAYS");
         RottenSeats x = with("h>0", 0);
         x.right(0, 0, 0, 0, -365);
         furrows(x, 0, 0, -9);

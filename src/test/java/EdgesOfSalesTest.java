@@ -1,3 +1,5 @@
+import java.util.Arrays;
+
 /** Where promises 18 to 21 end: sales, seats sold twice, and what a seat is worth. */
 public final class EdgesOfSalesTest {
     private static final int MIN = Integer.MIN_VALUE;
@@ -16,6 +18,7 @@ public final class EdgesOfSalesTest {
         promise19TwoOnADay();
         promise19None();
         promise19First();
+        promise19OtherPlaces();
         promise19Greatest();
         promise19Refusals();
         promise20First();
@@ -41,7 +44,7 @@ public final class EdgesOfSalesTest {
     }
 
     private static void twice(int want, int seats, int... days) {
-        Due.due("twice of " + seats + " seats, " + java.util.Arrays.toString(days), sold(seats, days).twice(0), want);
+        Due.due("twice of " + seats + " seats, " + Arrays.toString(days), sold(seats, days).twice(0), want);
     }
 
     private static void promise18Place() {
@@ -168,6 +171,27 @@ public final class EdgesOfSalesTest {
         x.sell(0, 0, 0, 0);
         Due.due("twice(0)", x.twice(0), 3);
         Due.due("twice(1)", x.twice(1), 2);
+    }
+
+    /** A sale of another place counts nothing, be its number lesser or greater, told ahead or behind. */
+    private static void promise19OtherPlaces() {
+        Due.says("SALES (30 at most) of a PLACE's seat");
+        for (int seats = 1; seats <= 2; seats++) {
+            RottenSeats x = sold(seats);
+            x.place(seats, -1);
+            x.place(seats, -1);
+            for (int i = 0; i < 3 * seats; i++) {
+                x.sell((i + 2) % 3, 7, 7, 0);
+            }
+            for (int place = 0; place < 3; place++) {
+                Due.due("twice of " + place + ", which sends " + seats, x.twice(place), -9);
+            }
+            Due.due("one sale more of 1", x.sell(1, 7, 7, 0), 3 * seats);
+            int[] twice = {-9, 3 * seats, -9};
+            for (int place = 0; place < 3; place++) {
+                Due.due("twice of " + place + ", one more of 1", x.twice(place), twice[place]);
+            }
+        }
     }
 
     /** 30 sales, no two of which share a day, then the same with the last that does. */

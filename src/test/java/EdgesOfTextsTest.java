@@ -13,6 +13,7 @@ public final class EdgesOfTextsTest {
         promise14Facts();
         promise14Deep();
         promise14DeepTogether();
+        promise14TurnedOften();
         promise14DeepAgain();
         promise14FaultOfAByte();
         promise14FaultAtTheEnd();
@@ -223,6 +224,19 @@ public final class EdgesOfTextsTest {
         }
     }
 
+    private static void promise14TurnedOften() {
+        Due.says("PART: \"!\" PART, \"(\" RULE \")\"");
+        String[] turned = {"", "!", "!!", "!!!", "!!!!", "!(!", "(!!", "!!(!", "(!(!"};
+        int[] so = {1, 0, 1, 0, 1, 1, 1, 0, 1};
+        for (int i = 0; i < turned.length; i++) {
+            String ends = turned[i].replace("!", "").replace('(', ')');
+            Due.due(turned[i] + "0=0", holds(turned[i] + "0=0" + ends), so[i]);
+            Due.due(turned[i] + "0<0", holds(turned[i] + "0<0" + ends), 1 - so[i]);
+            Due.due(turned[i] + "0<0|0<0", holds(turned[i] + "0<0" + ends + "|0<0"), 1 - so[i]);
+            Due.due(turned[i] + "0=0&0=0", holds(turned[i] + "0=0" + ends + "&0=0"), so[i]);
+        }
+    }
+
     private static void promise14DeepAgain() {
         Due.says("\"!\" and \"(\" together 4 deep at most.");
         good("!!!!h=1&!!!!h=1|!!!!h=1");
@@ -303,6 +317,7 @@ public final class EdgesOfTextsTest {
         Due.due("four deep", holds("!(!(0=1|0=1)&(0=0|(0=1&0=1|0=1)))|1<1000"), 1);
         Due.due("four deep, the other way", holds("!(!(0=1|0=1)&(0=0|(0=1&0=1|0=1)))|1>1000"), 0);
         Due.due("brackets to the right", holds("0=1|(0=1|(0=1|(0=1|(0=1|0=0))))"), 1);
+        Due.due("nothing less than nothing", holds("0=0&(0<0|0=0)&(0<0|0=0|0<0)"), 1);
         Due.due("brackets to the left", holds("!(((0=1|0=0)&0=1)|0=1)"), 1);
     }
 

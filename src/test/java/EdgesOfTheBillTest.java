@@ -119,7 +119,8 @@ public final class EdgesOfTheBillTest {
     }
 
     private static void promise26Order() {
-        Due.says("-2 kind; -4 (HANGS, too); -6 (n 1, 2, of kind 2, too; x 0 .. 9999; 9, too); -1 TEXT (kind 2); -3 HANGS");
+        Due.says("-2 kind; -4 (HANGS, too); -6 (n 1, 2, of kind 2, too; x 0 .. 9999; 9, too); -1 TEXT (kind 2); "
+                + "-3 HANGS: not lesser ones.");
         Edge.refused("n below ahead of x above", -4, x -> x.line(0, 0, 10000, 8));
         Edge.refused("x below ahead of n above", -4, x -> x.line(0, 3, -1, 8));
         Edge.refused("hangs below ahead of n and x above", -4, x -> x.line(0, 3, 10000, -1));
@@ -441,7 +442,8 @@ public final class EdgesOfTheBillTest {
     }
 
     private static void promise30Votes() {
-        Due.says("VOTES: how many PERSONS MAY VOTE (in some PLACE) UNDER all and not without it, less those otherwise.");
+        Due.says("VOTES: how many PERSONS MAY VOTE (in some PLACE) UNDER all and not without it, less those "
+                + "otherwise.");
         RottenSeats x = places(new int[] {1, 0}, 0, 0);
         Due.text(x, "d>0");
         Due.text(x, "d=0");

@@ -86,33 +86,14 @@ public final class KnotsTest {
         Due.refusals("after there", x, 4, 0, 0, 3, 0, 2);
     }
 
-    /** Knots with so many members each, all of which have read all and are there on night 0. */
-    private static RottenSeats knots(int... sizes) {
-        RottenSeats x = new RottenSeats();
-        for (int knot = 0; knot < sizes.length; knot++) {
-            for (int i = 0; i < sizes[knot]; i++) {
-                x.member(knot, 0);
-            }
-            x.read(knot, 511);
-            x.there(knot, 0, sizes[knot], sizes[knot]);
-        }
-        return x;
-    }
-
-    private static void lines(RottenSeats x, int... hangs) {
-        for (int set : hangs) {
-            x.line(0, 1, 0, set);
-        }
-    }
-
     private static void divided(RottenSeats x, int set, int night, int least, int most) {
         Due.due("least of " + set + " on " + night, x.divide(set, night, 0), least);
         Due.due("most of " + set + " on " + night, x.divide(set, night, 1), most);
     }
 
     private static void promise35Divide() {
-        RottenSeats x = knots(10, 10, 10);
-        lines(x, 0, 0, 2);
+        RottenSeats x = World.knots(10, 10, 10);
+        World.lines(x, 0, 0, 2);
         x.want(0, 0, 5);
         x.want(0, 1, -6);
         x.want(1, 1, 1);
@@ -134,8 +115,8 @@ public final class KnotsTest {
     }
 
     private static void promise35Bars() {
-        RottenSeats x = knots(3);
-        lines(x, 0, 0);
+        RottenSeats x = World.knots(3);
+        World.lines(x, 0, 0);
         x.want(0, 0, 4);
         x.want(0, 1, 3);
         x.bar(0, 6);
@@ -149,8 +130,8 @@ public final class KnotsTest {
     }
 
     private static void promise35Read() {
-        RottenSeats x = knots(3);
-        lines(x, 0, 0);
+        RottenSeats x = World.knots(3);
+        World.lines(x, 0, 0);
         x.want(0, 0, 4);
         x.want(0, 1, -9);
         divided(x, 3, 0, -3, -3);
@@ -164,8 +145,8 @@ public final class KnotsTest {
     }
 
     private static void promise35Present() {
-        RottenSeats x = knots(3);
-        lines(x, 0);
+        RottenSeats x = World.knots(3);
+        World.lines(x, 0);
         x.want(0, 0, 4);
         x.there(0, 0, 10, 20);
         divided(x, 1, 0, 3, 3);
@@ -182,8 +163,8 @@ public final class KnotsTest {
     }
 
     private static void promise35Refusals() {
-        RottenSeats x = knots(3);
-        lines(x, 0);
+        RottenSeats x = World.knots(3);
+        World.lines(x, 0);
         Due.due("a set with others", x.divide(2, 0, 2), 1000000001);
         Due.due("a set below 0", x.divide(-1, 0, 2), 1000000001);
         Due.due("night 5", x.divide(0, 5, 2), 1000000001);
@@ -194,8 +175,8 @@ public final class KnotsTest {
     }
 
     private static void promise36Carry() {
-        RottenSeats x = knots(5, 4);
-        lines(x, 0, 0, 0);
+        RottenSeats x = World.knots(5, 4);
+        World.lines(x, 0, 0, 0);
         x.want(0, 0, 3);
         x.want(0, 1, -4);
         x.want(0, 2, 0);
@@ -215,11 +196,11 @@ public final class KnotsTest {
         x.want(0, 2, 9);
         x.want(1, 2, 9);
         Due.due("carry(0, 0): both want but 0", x.carry(0, 0), 1);
-        RottenSeats y = knots(2);
+        RottenSeats y = World.knots(2);
         Due.due("no line, bar 0", y.carry(0, 0), -9);
         y.bar(0, -1);
         Due.due("no line, bar -1", y.carry(0, 0), 0);
-        lines(y, 0, 0);
+        World.lines(y, 0, 0);
         y.want(0, 0, -9);
         y.want(0, 1, -9);
         Due.due("all left out", y.carry(0, 0), 3);
@@ -227,8 +208,8 @@ public final class KnotsTest {
     }
 
     private static void promise36Least() {
-        RottenSeats x = knots(5);
-        lines(x, 0, 0, 0, 0);
+        RottenSeats x = World.knots(5);
+        World.lines(x, 0, 0, 0, 0);
         x.want(0, 0, 2);
         x.want(0, 1, -3);
         x.want(0, 2, -3);
@@ -258,8 +239,8 @@ public final class KnotsTest {
     }
 
     private static void promise36NearlyAll() {
-        RottenSeats x = knots(5);
-        lines(x, 0, 0, 0, 0, 0, 0, 0, 0, 0);
+        RottenSeats x = World.knots(5);
+        World.lines(x, 0, 0, 0, 0, 0, 0, 0, 0, 0);
         for (int line = 0; line < 9; line++) {
             x.want(0, line, line == 4 ? 2 : -3);
         }
@@ -275,8 +256,8 @@ public final class KnotsTest {
     }
 
     private static void promise36Standing() {
-        RottenSeats x = knots(5);
-        lines(x, 0, 1, 2, 0);
+        RottenSeats x = World.knots(5);
+        World.lines(x, 0, 1, 2, 0);
         x.want(0, 0, -5);
         x.want(0, 1, 2);
         x.want(0, 2, 2);
@@ -293,8 +274,8 @@ public final class KnotsTest {
     }
 
     private static void promise36Loses() {
-        RottenSeats x = knots(9, 1, 1, 1);
-        lines(x, 0, 0, 0);
+        RottenSeats x = World.knots(9, 1, 1, 1);
+        World.lines(x, 0, 0, 0);
         x.want(0, 0, -5);
         x.want(0, 1, -4);
         x.want(0, 2, 3);
@@ -321,7 +302,7 @@ public final class KnotsTest {
     }
 
     private static void promise36Refusals() {
-        RottenSeats x = knots(3);
+        RottenSeats x = World.knots(3);
         Due.due("night 5", x.carry(5, 9), 1000000001);
         Due.due("night -1", x.carry(-1, -1), 1000000001);
         Due.due("what 9", x.carry(0, 9), 1000000002);
@@ -338,9 +319,9 @@ public final class KnotsTest {
     }
 
     private static void promise37Alone() {
-        RottenSeats x = knots(5, 5, 5);
+        RottenSeats x = World.knots(5, 5, 5);
         planned(x, 5, 9, 0);
-        lines(x, 0, 0, 0);
+        World.lines(x, 0, 0, 0);
         planned(x, 5, 9, 0, -9, -9, -9);
         x.want(0, 0, 1);
         x.want(1, 0, -9);
@@ -371,8 +352,8 @@ public final class KnotsTest {
 
     /** A knot that alone is there on the nights of a set, and wants each line. */
     private static RottenSeats willing(int nights, int... hangs) {
-        RottenSeats x = knots(5);
-        lines(x, hangs);
+        RottenSeats x = World.knots(5);
+        World.lines(x, hangs);
         for (int line = 0; line < 9; line++) {
             x.want(0, line, 1);
         }
@@ -479,7 +460,7 @@ public final class KnotsTest {
     private static void promise38Refusals() {
         RottenSeats x = new RottenSeats();
         Due.due("nightOf no line", x.nightOf(0, 10, 0), -1);
-        lines(x, 0);
+        World.lines(x, 0);
         Due.due("nightOf -1", x.nightOf(0, 10, -1), -1);
         Due.due("nightOf 1", x.nightOf(6, 10, 1), -1);
         Due.due("nightOf(0, 10, 0)", x.nightOf(0, 10, 0), -4);

@@ -180,34 +180,26 @@ public final class LotsTest {
         return drawn.stream().skip(6).mapToInt(Integer::intValue).toArray();
     }
 
-    private static RottenSeats eleven(int... leans) {
-        RottenSeats x = new RottenSeats();
-        for (int lean : leans) {
-            x.member(0, lean);
-        }
-        return x;
-    }
-
     private static void promise25Struck() {
         // Side 0 strikes 9, 8, 7; side 1 strikes -9, -8, -7.
-        judges(eleven(9, -9, 1, 8, -8, 2, 7, -7, 3, -1, 0), 1, 2, 5, 8, 9, 10, 1);
+        judges(World.leans(9, -9, 1, 8, -8, 2, 7, -7, 3, -1, 0), 1, 2, 5, 8, 9, 10, 1);
         // Of several the least number: 0, 1, 2 by side 0; 6, 7, 8 by side 1.
-        judges(eleven(5, 5, 5, 5, 5, 5, -5, -5, -5, -5, -5), 1, 3, 4, 5, 9, 10, 1);
+        judges(World.leans(5, 5, 5, 5, 5, 5, -5, -5, -5, -5, -5), 1, 3, 4, 5, 9, 10, 1);
         // Side 0 is first: of one lean left for both it takes the least number ahead of side 1.
-        judges(eleven(1, 0, 0, 0, 0, 0, 0, 0, 0, 0, 0), 1, 6, 7, 8, 9, 10, 0);
-        judges(eleven(0, 0, 0, 0, 0, 0, 0, 0, 0, 0, 1), 1, 5, 6, 7, 8, 9, 0);
-        judges(eleven(0, 0, 0, 0, 0, 0, 0, 0, 0, 0, -1), 1, 5, 6, 7, 8, 9, 0);
+        judges(World.leans(1, 0, 0, 0, 0, 0, 0, 0, 0, 0, 0), 1, 6, 7, 8, 9, 10, 0);
+        judges(World.leans(0, 0, 0, 0, 0, 0, 0, 0, 0, 0, 1), 1, 5, 6, 7, 8, 9, 0);
+        judges(World.leans(0, 0, 0, 0, 0, 0, 0, 0, 0, 0, -1), 1, 5, 6, 7, 8, 9, 0);
     }
 
     private static void promise25Verdict() {
         int five = 5;
-        Due.due("sum 0", eleven(9, 9, 9, -9, -9, -9, 0, 0, 0, 0, 0).lot(1, five), 0);
-        Due.due("sum 1", eleven(9, 9, 9, -9, -9, -9, 0, 0, 1, 0, 0).lot(1, five), 1);
-        Due.due("sum -1", eleven(9, 9, 9, -9, -9, -9, 0, 0, -1, 0, 0).lot(1, five), 0);
-        Due.due("the first member decides", eleven(1, 9, 9, 9, -9, -9, -9, 0, 0, 0, 0).lot(1, five), 1);
-        Due.due("the first member sits", eleven(1, 9, 9, 9, -9, -9, -9, 0, 0, 0, 0).lot(1, 0), 0);
-        Due.due("the last member decides", eleven(9, 9, 9, -9, -9, -9, 0, 0, 0, 0, 1).lot(1, five), 1);
-        Due.due("sum of 1, 1, -1", eleven(9, 9, 9, -9, -9, -9, 1, 1, -1, 0, 0).lot(1, five), 1);
+        Due.due("sum 0", World.leans(9, 9, 9, -9, -9, -9, 0, 0, 0, 0, 0).lot(1, five), 0);
+        Due.due("sum 1", World.leans(9, 9, 9, -9, -9, -9, 0, 0, 1, 0, 0).lot(1, five), 1);
+        Due.due("sum -1", World.leans(9, 9, 9, -9, -9, -9, 0, 0, -1, 0, 0).lot(1, five), 0);
+        Due.due("the first member decides", World.leans(1, 9, 9, 9, -9, -9, -9, 0, 0, 0, 0).lot(1, five), 1);
+        Due.due("the first member sits", World.leans(1, 9, 9, 9, -9, -9, -9, 0, 0, 0, 0).lot(1, 0), 0);
+        Due.due("the last member decides", World.leans(9, 9, 9, -9, -9, -9, 0, 0, 0, 0, 1).lot(1, five), 1);
+        Due.due("sum of 1, 1, -1", World.leans(9, 9, 9, -9, -9, -9, 1, 1, -1, 0, 0).lot(1, five), 1);
     }
 
     private static void promise25Refusals() {

@@ -1,6 +1,7 @@
 import java.lang.reflect.InvocationTargetException;
 import java.lang.reflect.Method;
 import java.util.ArrayList;
+import java.util.Arrays;
 import java.util.List;
 
 /** Calls that make an object of some size, told to RottenSeats and to NaiveSeats alike. */
@@ -90,6 +91,35 @@ final class World {
         return calls.toArray(new Object[0][]);
     }
 
+    /** Knots with so many members each, that have read all and are all there on night 0. */
+    static RottenSeats knots(int... sizes) {
+        RottenSeats x = new RottenSeats();
+        for (int knot = 0; knot < sizes.length; knot++) {
+            for (int i = 0; i < sizes[knot]; i++) {
+                x.member(knot, 0);
+            }
+            x.read(knot, 511);
+            x.there(knot, 0, sizes[knot], sizes[knot]);
+        }
+        return x;
+    }
+
+    /** Lines that hang on such sets. */
+    static void lines(RottenSeats x, int... hangs) {
+        for (int set : hangs) {
+            x.line(0, 1, 0, set);
+        }
+    }
+
+    /** Members of one knot with such leans. */
+    static RottenSeats leans(int... leans) {
+        RottenSeats x = new RottenSeats();
+        for (int lean : leans) {
+            x.member(0, lean);
+        }
+        return x;
+    }
+
     static void tell(Object to, Object[][] calls) {
         for (Object[] call : calls) {
             tell(to, call);
@@ -98,14 +128,14 @@ final class World {
 
     /** One call by its name: a machine's own exception in it is a fault of the program. */
     static int tell(Object to, Object... call) {
-        Object[] arguments = java.util.Arrays.copyOfRange(call, 1, call.length);
+        Object[] arguments = Arrays.copyOfRange(call, 1, call.length);
         for (Method method : to.getClass().getDeclaredMethods()) {
             if (method.getName().equals(call[0]) && method.getParameterCount() == arguments.length
                     && method.getReturnType() == int.class) {
                 try {
                     return (Integer) method.invoke(to, arguments);
                 } catch (InvocationTargetException e) {
-                    throw new IllegalStateException(java.util.Arrays.toString(call), e.getCause());
+                    throw new IllegalStateException(Arrays.toString(call), e.getCause());
                 } catch (IllegalAccessException e) {
                     throw new IllegalStateException(e);
                 }
